@@ -10,15 +10,21 @@ public final class AgainstModelTest {
 
     /** A call: its weight among all, its name, and what its arguments are. */
     private static final String[] CALL_KINDS = {
-        "6 group G", "1 remove G", "8 limit G what value", "6 process G adj", "2 fork P", "22 charge P kind pages",
-        "6 uncharge P kind few", "8 use P few", "5 work P units", "5 move P G", "1 kill P", "3 take G many", "2 drain G",
+        "4 group G", "1 remove G", "7 limit G what value", "7 limit G protection value",
+        "5 process G adj", "2 fork P", "28 charge P kind pages",
+        "6 uncharge P kind few", "6 use P swapped", "5 work P units", "5 move P G", "1 kill P", "3 take G many", "2 drain G",
         "1 batch batch", "2 swap swap", "1 cap cap", "4 tick ticks", "2 trigger G window need", "1 forget",
-        "2 of G of", "2 proc P proc", "2 share G G level", "2 spare G G level kind", "2 next G level kind", "1 below G",
+        "2 of G of", "2 proc P proc", "4 share G R level", "4 spare G R level kind", "3 next G level kind", "1 below G",
         "1 procs G", "1 common G G", "1 pressure G stall window", "1 average G stall avg", "1 stalls G stall", "1 worst",
         "3 units K bit", "2 fired trigger bit", "1 events G event", "1 victim G", "1 dying G", "1 room G",
-        "2 deaths G bound", "2 taken G G many bit", "2 place P", "2 due G", "1 idle", "2 weigh G units", "1 pressed G",
-        "2 would P kind pages", "1 burst P kind", "2 stalled P kind pages", "3 undo undo", "1 image image",
+        "3 deaths G bound", "3 taken G R many bit", "3 place P", "2 due G", "1 idle", "2 weigh G units", "1 pressed G",
+        "2 would P kind pages", "1 burst P kind", "2 stalled P kind pages", "3 undo undo", "2 image image",
         "1 restore image", "2 count count"};
+
+    /** A run begins with some of these, so that there is something to go on with. */
+    private static final String[] SET_UP = {"3 group G", "4 process G adj", "2 charge P kind pages", "1 swap swap",
+        "3 limit G protection value"};
+    private static final int SET_UP_CALLS = 40;
 
     private final Random random;
     private final GroupLimits program = new GroupLimits();
@@ -49,25 +55,29 @@ public final class AgainstModelTest {
     }
 
     private boolean passes() throws Exception {
-        int weights = 0;
-        for (String kind : CALL_KINDS) {
-            weights += Integer.parseInt(kind.split(" ")[0]);
-        }
         for (int i = 0; i < CALLS; i++) {
-            int at = random.nextInt(weights);
-            String[] words = null;
-            for (String kind : CALL_KINDS) {
-                words = kind.split(" ");
-                at -= Integer.parseInt(words[0]);
-                if (at < 0) {
-                    break;
-                }
-            }
+            String[] words = oneOf(i < SET_UP_CALLS ? SET_UP : CALL_KINDS);
             if (!agree(words) || i % 4 == 0 && !sameState()) {
                 return false;
             }
         }
         return true;
+    }
+
+    private String[] oneOf(String[] kinds) {
+        int weights = 0;
+        for (String kind : kinds) {
+            weights += Integer.parseInt(kind.split(" ")[0]);
+        }
+        int at = random.nextInt(weights);
+        for (String kind : kinds) {
+            String[] words = kind.split(" ");
+            at -= Integer.parseInt(words[0]);
+            if (at < 0) {
+                return words;
+            }
+        }
+        throw new IllegalStateException();
     }
 
     private boolean agree(String[] words) throws Exception {
@@ -169,10 +179,20 @@ public final class AgainstModelTest {
                 return oneOf(model.count(0));
             case "P":
                 return oneOf(model.count(1));
+            case "R":
+                int up = before;
+                while (random.nextInt(3) > 0 && model.of(up, 9) >= 0) {
+                    up = model.of(up, 9);
+                }
+                return up;
+            case "swapped":
+                return between(1, Math.max(1, Math.min(99, model.proc(before, 6) + 1)));
             case "K":
                 return oneOf(model.count(0) | model.count(1));
             case "what":
                 return between(0, 8);
+            case "protection":
+                return between(0, 1);
             case "value":
                 return limitValue(before);
             case "bound":
