@@ -163,8 +163,10 @@ public final class BackTest {
         due(49, "the trigger's group", x.fired(1, 1), 4);
         due(49, "the other's", x.fired(2, 1), 1);
         x.forget();
-        x.trigger(0, 40, 40);
-        x.undo(2);
+        x.trigger(0, 1, 1);
+        x.trigger(0, 1, 1);
+        x.trigger(0, 1, 1);
+        x.undo(4);
         due(49, "as it was", seen(x) == before ? 1 : 0, 1);
         x.limit(1, 5, 0);
         x.limit(1, 2, 0);

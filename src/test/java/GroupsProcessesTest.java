@@ -972,6 +972,11 @@ public final class GroupsProcessesTest {
         x.tick(1);
         due(18, "the rest", x.proc(0, 8), 20);
         due(18, "in that period", x.of(1, 15), 8);
+        x.cap(99);
+        x.work(0, 999);
+        x.limit(1, 7, 99);
+        x.tick(2);
+        due(18, "a QUOTA of 99 is none", x.of(1, 15), 8 + 2 * 99);
         GroupLimits y = small();
         y.limit(0, 7, 0);
         y.work(0, 5);

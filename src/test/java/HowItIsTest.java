@@ -439,6 +439,18 @@ public final class HowItIsTest {
         due(33, "what it asks for", y.units(2, 1), 5);
         due(33, "by two rounds", y.units(3, 1), 4);
         due(33, "all that is asked for", sumOfUnits(y, 99), 16);
+        GroupLimits z = new GroupLimits();
+        int[] todo = {5, 1, 1, 99};
+        int[] gets = {5, 1, 1, 9};
+        for (int p = 0; p < 4; p++) {
+            z.process(0, 0);
+            z.work(p, todo[p]);
+        }
+        z.cap(16);
+        // 4 each, but 1 for two of them; of 6 left 3 each, but the first asks for one more only; then 2 for the last.
+        for (int p = 0; p < 4; p++) {
+            due(33, "in rounds", z.units(p, 1), gets[p]);
+        }
     }
 
     private static int sumOfUnits(GroupLimits x, int cap) {
