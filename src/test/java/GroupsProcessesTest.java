@@ -50,19 +50,6 @@ public final class GroupsProcessesTest {
         Check.end("groups, processes");
     }
 
-    /** Groups 1, 2 below 1, 3; one process in each of 1, 2, 3, named 0, 1, 2; batches of one page. */
-    private static GroupLimits small() {
-        GroupLimits x = new GroupLimits();
-        x.batch(1);
-        x.group(0);
-        x.group(1);
-        x.group(0);
-        x.process(1, 0);
-        x.process(2, 0);
-        x.process(3, 0);
-        return x;
-    }
-
     private static void aNewObject() {
         GroupLimits x = new GroupLimits();
         int[] counts = {1, 0, 0, 0, 4, 0, 0, 0, 0, 0, 0, 0, 10};
@@ -201,7 +188,7 @@ public final class GroupsProcessesTest {
     }
 
     private static void removeFromTheMiddle() {
-        GroupLimits x = small();
+        GroupLimits x = Check.small();
         x.kill(1);
         due(3, "remove", x.remove(2), 1);
         due(3, "below", x.below(0), 11);
@@ -218,7 +205,7 @@ public final class GroupsProcessesTest {
     }
 
     private static void limitNumbers() {
-        GroupLimits x = small();
+        GroupLimits x = Check.small();
         x.charge(0, 1, 10);
         x.charge(0, 0, 6);
         for (int g : WRONG) {
@@ -246,7 +233,7 @@ public final class GroupsProcessesTest {
     }
 
     private static void limitTakes() {
-        GroupLimits x = small();
+        GroupLimits x = Check.small();
         x.charge(0, 1, 10);
         x.charge(0, 0, 6);
         due(4, "limit HIGH", x.limit(1, 2, 12), 12);
@@ -341,7 +328,7 @@ public final class GroupsProcessesTest {
     }
 
     private static void processIsAsAtFirst() {
-        GroupLimits x = small();
+        GroupLimits x = Check.small();
         x.swap(20);
         x.charge(2, 0, 12);
         x.charge(2, 1, 5);
@@ -365,7 +352,7 @@ public final class GroupsProcessesTest {
     }
 
     private static void processUnderPids() {
-        GroupLimits x = small();
+        GroupLimits x = Check.small();
         x.limit(1, 8, 2);
         due(5, "PIDS of its parent", x.process(2, 0), -4);
         due(5, "PIDS of it", x.process(1, 0), -4);
@@ -381,7 +368,7 @@ public final class GroupsProcessesTest {
     }
 
     private static void fork() {
-        GroupLimits x = small();
+        GroupLimits x = Check.small();
         x.process(1, 3);
         x.charge(3, 0, 5);
         x.work(3, 4);
@@ -438,7 +425,7 @@ public final class GroupsProcessesTest {
     }
 
     private static void chargeTakes() {
-        GroupLimits x = small();
+        GroupLimits x = Check.small();
         x.limit(1, 3, 20);
         x.limit(2, 3, 10);
         x.charge(1, 1, 10);
@@ -469,7 +456,7 @@ public final class GroupsProcessesTest {
     }
 
     private static void chargeKills() {
-        GroupLimits x = small();
+        GroupLimits x = Check.small();
         x.process(1, 0);
         x.limit(1, 3, 10);
         x.charge(0, 0, 4);
@@ -486,7 +473,7 @@ public final class GroupsProcessesTest {
         due(7, "MAX events", x.events(1, 2), 2);
         due(7, "more than MAX", x.charge(3, 1, 11), 3);
         due(7, "who is left", x.procs(0), 4);
-        GroupLimits y = small();
+        GroupLimits y = Check.small();
         y.limit(1, 3, 10);
         y.process(1, 0);
         y.charge(1, 0, 5);
@@ -496,7 +483,7 @@ public final class GroupsProcessesTest {
         due(7, "who is left", y.procs(1), 8);
         due(7, "a MAX event each time", y.events(1, 2), 2);
         due(7, "KILL events", y.events(1, 3), 2);
-        GroupLimits z = small();
+        GroupLimits z = Check.small();
         z.limit(2, 4, 1);
         z.process(2, -10);
         z.process(2, -9);
@@ -528,7 +515,7 @@ public final class GroupsProcessesTest {
     }
 
     private static void chargeHigh() {
-        GroupLimits x = small();
+        GroupLimits x = Check.small();
         x.limit(1, 2, 4);
         x.limit(2, 2, 6);
         due(7, "above both HIGH", x.charge(1, 0, 10), 0);
@@ -572,7 +559,7 @@ public final class GroupsProcessesTest {
     }
 
     private static void chargeWrong() {
-        GroupLimits x = small();
+        GroupLimits x = Check.small();
         x.charge(0, 0, 50);
         for (int p : new int[] {-1, 3, 16, Integer.MAX_VALUE, Integer.MIN_VALUE}) {
             due(7, "charge of none", x.charge(p, 5, 0), -2);
@@ -618,7 +605,7 @@ public final class GroupsProcessesTest {
     }
 
     private static void use() {
-        GroupLimits x = small();
+        GroupLimits x = Check.small();
         x.charge(0, 0, 10);
         x.swap(20);
         due(9, "take", x.take(1, 8), 8);
@@ -640,7 +627,7 @@ public final class GroupsProcessesTest {
     }
 
     private static void useAtMax() {
-        GroupLimits x = small();
+        GroupLimits x = Check.small();
         x.process(3, -10);
         x.charge(0, 0, 10);
         x.charge(3, 0, 10);
@@ -665,7 +652,7 @@ public final class GroupsProcessesTest {
     }
 
     private static void work() {
-        GroupLimits x = small();
+        GroupLimits x = Check.small();
         due(10, "work", x.work(0, 1), 1);
         due(10, "more", x.work(0, 500), 501);
         due(10, "999 at most", x.work(0, 999), 999);
@@ -706,7 +693,7 @@ public final class GroupsProcessesTest {
     }
 
     private static void moveTakes() {
-        GroupLimits x = small();
+        GroupLimits x = Check.small();
         x.charge(2, 0, 6);
         x.charge(1, 1, 8);
         x.charge(0, 1, 5);
@@ -730,7 +717,7 @@ public final class GroupsProcessesTest {
     }
 
     private static void moveRefused() {
-        GroupLimits x = small();
+        GroupLimits x = Check.small();
         x.charge(2, 0, 6);
         x.charge(1, 1, 3);
         x.charge(1, 0, 5);
@@ -771,7 +758,7 @@ public final class GroupsProcessesTest {
     }
 
     private static void kill() {
-        GroupLimits x = small();
+        GroupLimits x = Check.small();
         x.batch(4);
         x.limit(1, 4, 1);
         x.charge(0, 0, 5);
@@ -788,7 +775,7 @@ public final class GroupsProcessesTest {
     }
 
     private static void take() {
-        GroupLimits x = small();
+        GroupLimits x = Check.small();
         for (int g : WRONG) {
             due(13, "take from none", x.take(g, 0), -2);
         }
@@ -827,7 +814,7 @@ public final class GroupsProcessesTest {
     }
 
     private static void takeByLevels() {
-        GroupLimits x = small();
+        GroupLimits x = Check.small();
         x.limit(1, 1, 12);
         x.limit(1, 0, 4);
         x.charge(0, 1, 12);
@@ -850,7 +837,7 @@ public final class GroupsProcessesTest {
     }
 
     private static void takeWithinSwap() {
-        GroupLimits x = small();
+        GroupLimits x = Check.small();
         x.charge(0, 0, 10);
         x.charge(1, 0, 10);
         x.charge(2, 0, 10);
@@ -888,7 +875,7 @@ public final class GroupsProcessesTest {
     }
 
     private static void settings() {
-        GroupLimits x = small();
+        GroupLimits x = Check.small();
         due(15, "batch", x.batch(8), 1);
         due(15, "batch", x.batch(1), 8);
         for (int b : new int[] {0, -1, 9, Integer.MAX_VALUE, Integer.MIN_VALUE}) {
@@ -915,7 +902,7 @@ public final class GroupsProcessesTest {
     }
 
     private static void tick() {
-        GroupLimits x = small();
+        GroupLimits x = Check.small();
         for (int n : new int[] {0, -1, 41, Integer.MAX_VALUE, Integer.MIN_VALUE}) {
             due(18, "n", x.tick(n), -3);
         }
@@ -934,7 +921,7 @@ public final class GroupsProcessesTest {
         due(18, "TODO", x.proc(1, 7), 26);
         due(18, "40 at most", x.tick(40), 41);
         due(18, "all is done", x.proc(1, 8) * 100 + x.proc(2, 8), 3030);
-        GroupLimits y = small();
+        GroupLimits y = Check.small();
         y.limit(1, 2, 0);
         y.charge(0, 0, 12);
         due(18, "stall", y.proc(0, 4), 3);
@@ -954,7 +941,7 @@ public final class GroupsProcessesTest {
     }
 
     private static void tickQuota() {
-        GroupLimits x = small();
+        GroupLimits x = Check.small();
         x.limit(1, 7, 6);
         x.work(0, 20);
         x.work(2, 3);
@@ -977,7 +964,7 @@ public final class GroupsProcessesTest {
         x.limit(1, 7, 99);
         x.tick(2);
         due(18, "a QUOTA of 99 is none", x.of(1, 15), 8 + 2 * 99);
-        GroupLimits y = small();
+        GroupLimits y = Check.small();
         y.limit(0, 7, 0);
         y.work(0, 5);
         y.tick(9);
@@ -1038,7 +1025,7 @@ public final class GroupsProcessesTest {
     }
 
     private static void trigger() {
-        GroupLimits x = small();
+        GroupLimits x = Check.small();
         for (int g : WRONG) {
             due(19, "trigger of none", x.trigger(g, 0, 0), -2);
         }
@@ -1073,7 +1060,7 @@ public final class GroupsProcessesTest {
         due(20, "forget", x.forget(), 0);
         due(20, "it can be undone", x.undo(2), 8);
         due(20, "they are back", x.fired(0, 0), 2);
-        GroupLimits y = small();
+        GroupLimits y = Check.small();
         y.limit(1, 2, 0);
         y.charge(0, 0, 80);
         y.tick(2);

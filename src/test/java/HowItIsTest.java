@@ -27,21 +27,8 @@ public final class HowItIsTest {
         Check.end("how it is");
     }
 
-    /** Groups 1, 2 below 1, 3; one process in each of 1, 2, 3, named 0, 1, 2; batches of one page. */
-    private static GroupLimits small() {
-        GroupLimits x = new GroupLimits();
-        x.batch(1);
-        x.group(0);
-        x.group(1);
-        x.group(0);
-        x.process(1, 0);
-        x.process(2, 0);
-        x.process(3, 0);
-        return x;
-    }
-
     private static void of() {
-        GroupLimits x = small();
+        GroupLimits x = Check.small();
         int[] v = {5, 6, 70, 80, 1, 90, 7, 50, 9};
         for (int what = 0; what < v.length; what++) {
             x.limit(1, what, v[what]);
@@ -79,7 +66,7 @@ public final class HowItIsTest {
     }
 
     private static void proc() {
-        GroupLimits x = small();
+        GroupLimits x = Check.small();
         x.process(3, -4);
         x.swap(99);
         x.charge(3, 0, 8);
@@ -101,7 +88,7 @@ public final class HowItIsTest {
     }
 
     private static void share() {
-        GroupLimits x = small();
+        GroupLimits x = Check.small();
         x.group(1);
         x.group(2);
         x.process(4, 0);
@@ -141,7 +128,7 @@ public final class HowItIsTest {
     }
 
     private static void shareByLevels() {
-        GroupLimits x = small();
+        GroupLimits x = Check.small();
         x.limit(2, 0, 4);
         x.limit(2, 1, 6);
         x.limit(1, 0, 3);
@@ -154,7 +141,7 @@ public final class HowItIsTest {
     }
 
     private static void spare() {
-        GroupLimits x = small();
+        GroupLimits x = Check.small();
         x.charge(0, 1, 6);
         x.charge(1, 1, 10);
         x.charge(1, 0, 7);
@@ -198,7 +185,7 @@ public final class HowItIsTest {
     }
 
     private static void next() {
-        GroupLimits x = small();
+        GroupLimits x = Check.small();
         due(25, "none has spare", x.next(0, 0, 1), -1);
         x.charge(0, 1, 6);
         x.charge(1, 1, 6);
@@ -227,7 +214,7 @@ public final class HowItIsTest {
     }
 
     private static void bits() {
-        GroupLimits x = small();
+        GroupLimits x = Check.small();
         x.group(2);
         due(26, "below", x.below(0), 31);
         due(26, "below", x.below(1), 22);
@@ -253,7 +240,7 @@ public final class HowItIsTest {
     }
 
     private static void pressure() {
-        GroupLimits x = small();
+        GroupLimits x = Check.small();
         x.limit(2, 2, 0);
         x.charge(1, 0, 12);
         x.work(2, 35);
@@ -299,7 +286,7 @@ public final class HowItIsTest {
     }
 
     private static void average() {
-        GroupLimits x = small();
+        GroupLimits x = Check.small();
         x.limit(2, 2, 0);
         x.charge(1, 0, 8);
         x.work(2, 15);
@@ -333,7 +320,7 @@ public final class HowItIsTest {
     }
 
     private static void nobodyStalls() {
-        GroupLimits x = small();
+        GroupLimits x = Check.small();
         x.work(2, 11);
         x.tick(1);
         for (int g = 0; g < 4; g++) {
@@ -345,7 +332,7 @@ public final class HowItIsTest {
         for (int g = 0; g < 4; g++) {
             due(29, "nothing is left", x.pressure(g, 2, 1), 0);
         }
-        GroupLimits y = small();
+        GroupLimits y = Check.small();
         y.limit(0, 2, 0);
         y.charge(0, 0, 1);
         y.charge(1, 0, 1);
@@ -360,7 +347,7 @@ public final class HowItIsTest {
     }
 
     private static void worst() {
-        GroupLimits x = small();
+        GroupLimits x = Check.small();
         due(32, "none was", x.worst(), -1);
         x.limit(3, 2, 0);
         x.limit(2, 2, 0);
@@ -383,7 +370,7 @@ public final class HowItIsTest {
     }
 
     private static void units() {
-        GroupLimits x = small();
+        GroupLimits x = Check.small();
         due(33, "nobody asks", x.units(0, 0), 0);
         x.limit(3, 6, 4);
         x.work(0, 9);
@@ -459,7 +446,7 @@ public final class HowItIsTest {
     }
 
     private static void fired() {
-        GroupLimits x = small();
+        GroupLimits x = Check.small();
         due(34, "none", x.fired(0, 0), -2);
         x.trigger(1, 1, 1);
         x.trigger(3, 2, 2);
@@ -481,7 +468,7 @@ public final class HowItIsTest {
     }
 
     private static void events() {
-        GroupLimits x = small();
+        GroupLimits x = Check.small();
         x.limit(1, 3, 10);
         x.limit(1, 2, 5);
         x.charge(0, 0, 8);

@@ -29,21 +29,8 @@ public final class OnPaperTest {
         Check.end("on paper");
     }
 
-    /** Groups 1, 2 below 1, 3; one process in each of 1, 2, 3, named 0, 1, 2; batches of one page. */
-    private static GroupLimits small() {
-        GroupLimits x = new GroupLimits();
-        x.batch(1);
-        x.group(0);
-        x.group(1);
-        x.group(0);
-        x.process(1, 0);
-        x.process(2, 0);
-        x.process(3, 0);
-        return x;
-    }
-
     private static void victim() {
-        GroupLimits x = small();
+        GroupLimits x = Check.small();
         due(36, "of like ones the lowest", x.victim(0), 0);
         x.charge(2, 0, 5);
         due(36, "the most", x.victim(0), 2);
@@ -75,7 +62,7 @@ public final class OnPaperTest {
     }
 
     private static void dying() {
-        GroupLimits x = small();
+        GroupLimits x = Check.small();
         x.process(2, 3);
         x.process(2, -10);
         x.process(1, -9);
@@ -104,7 +91,7 @@ public final class OnPaperTest {
     }
 
     private static void room() {
-        GroupLimits x = small();
+        GroupLimits x = Check.small();
         x.batch(4);
         due(38, "all", x.room(2), 999);
         x.charge(1, 0, 1);
@@ -122,7 +109,7 @@ public final class OnPaperTest {
     }
 
     private static void deaths() {
-        GroupLimits x = small();
+        GroupLimits x = Check.small();
         x.charge(0, 0, 10);
         x.charge(1, 0, 20);
         x.charge(1, 1, 5);
@@ -145,7 +132,7 @@ public final class OnPaperTest {
     }
 
     private static void taken() {
-        GroupLimits x = small();
+        GroupLimits x = Check.small();
         x.batch(4);
         x.charge(0, 1, 9);
         x.charge(1, 1, 7);
@@ -175,7 +162,7 @@ public final class OnPaperTest {
     }
 
     private static void place() {
-        GroupLimits x = small();
+        GroupLimits x = Check.small();
         x.limit(0, 3, 100);
         x.charge(0, 0, 10);
         due(41, "of like ones the lowest", x.place(0), 0);
@@ -207,7 +194,7 @@ public final class OnPaperTest {
     }
 
     private static void placeWithinLimits() {
-        GroupLimits x = small();
+        GroupLimits x = Check.small();
         x.charge(0, 0, 10);
         x.move(0, 0);
         x.limit(1, 8, 1);
@@ -234,7 +221,7 @@ public final class OnPaperTest {
     }
 
     private static void due() {
-        GroupLimits x = small();
+        GroupLimits x = Check.small();
         due(42, "the root", x.due(0), 10);
         due(42, "1 and 3 alike", x.due(1), 5);
         due(42, "1 and 3 alike", x.due(3), 5);
@@ -261,7 +248,7 @@ public final class OnPaperTest {
     }
 
     private static void idle() {
-        GroupLimits x = small();
+        GroupLimits x = Check.small();
         due(43, "now", x.idle(), 0);
         x.work(0, 10);
         due(43, "one tick", x.idle(), 1);
@@ -276,7 +263,7 @@ public final class OnPaperTest {
         due(43, "one tick later", x.idle(), 15);
         x.limit(1, 7, 0);
         due(43, "never", x.idle(), -1);
-        GroupLimits y = small();
+        GroupLimits y = Check.small();
         y.cap(1);
         y.work(0, 100);
         due(43, "in 100", y.idle(), 100);
@@ -287,7 +274,7 @@ public final class OnPaperTest {
     }
 
     private static void weigh() {
-        GroupLimits x = small();
+        GroupLimits x = Check.small();
         x.work(0, 99);
         x.work(2, 99);
         due(44, "as it is", x.weigh(3, 5), 1);
@@ -312,7 +299,7 @@ public final class OnPaperTest {
     }
 
     private static void pressed() {
-        GroupLimits x = small();
+        GroupLimits x = Check.small();
         x.batch(4);
         x.charge(0, 0, 9);
         x.charge(1, 1, 7);
@@ -335,7 +322,7 @@ public final class OnPaperTest {
     }
 
     private static void would() {
-        GroupLimits x = small();
+        GroupLimits x = Check.small();
         x.process(1, -10);
         x.limit(1, 3, 20);
         x.charge(0, 1, 5);
@@ -368,7 +355,7 @@ public final class OnPaperTest {
     }
 
     private static void burst() {
-        GroupLimits x = small();
+        GroupLimits x = Check.small();
         due(47, "99 at most", x.burst(0, 0), 99);
         x.limit(1, 3, 50);
         due(47, "MAX", x.burst(0, 1), 50);
@@ -390,7 +377,7 @@ public final class OnPaperTest {
 
     /** A greater charge may be told better than a lesser one, by shares that are cut: the greatest counts. */
     private static void burstBySteps() {
-        GroupLimits x = small();
+        GroupLimits x = Check.small();
         x.limit(1, 3, 30);
         x.charge(0, 1, 9);
         x.charge(1, 1, 9);
@@ -406,7 +393,7 @@ public final class OnPaperTest {
     }
 
     private static void stalled() {
-        GroupLimits x = small();
+        GroupLimits x = Check.small();
         x.limit(1, 2, 10);
         x.limit(1, 3, 30);
         due(48, "no stall", x.stalled(0, 0, 10), 0);
@@ -427,7 +414,7 @@ public final class OnPaperTest {
 
     /** The calls on paper leave all as it was. */
     private static void nothingChanges() {
-        GroupLimits x = small();
+        GroupLimits x = Check.small();
         x.swap(20);
         x.limit(1, 3, 60);
         x.limit(1, 2, 50);
