@@ -42,34 +42,6 @@ public final class BackTest {
         return x;
     }
 
-    /** All that can be seen of the state, as one number. */
-    private static long seen(GroupLimits x) {
-        long sum = 0;
-        for (int what = 0; what <= 12; what++) {
-            sum = 31 * sum + (what == 6 ? 0 : x.count(what));
-        }
-        for (int g = 0; g < 12; g++) {
-            for (int what = 0; what <= 15; what++) {
-                sum = 31 * sum + x.of(g, what);
-            }
-            for (int i = 0; i < 9; i++) {
-                sum = 31 * sum + x.average(g, i % 3, i / 3);
-                sum = 31 * sum + x.pressure(g, i % 3, i / 3 * 15 + 1);
-                sum = 31 * sum + x.events(g, i % 4);
-                sum = 31 * sum + x.stalls(g, i % 3);
-            }
-        }
-        for (int p = 0; p < 16; p++) {
-            for (int what = 0; what <= 8; what++) {
-                sum = 31 * sum + x.proc(p, what);
-            }
-        }
-        for (int i = 0; i < 8; i++) {
-            sum = 31 * sum + x.fired(i / 2, i % 2);
-        }
-        return sum;
-    }
-
     /** One of the calls that can be undone, by its number. */
     private static int callOne(GroupLimits x, int i) {
         switch (i) {
@@ -138,14 +110,14 @@ public final class BackTest {
     private static void undoEachCall() {
         for (int i = 0; i < 19; i++) {
             GroupLimits x = busy();
-            long before = seen(x);
+            long before = Check.seen(x);
             int told = callOne(x, i);
             due(49, "call " + i + " isn't refused", told < 0 ? told : 0, 0);
             if (i != 12) {
-                due(49, "call " + i + " does something", seen(x) != before || i == 1 ? 1 : 0, 1);
+                due(49, "call " + i + " does something", Check.seen(x) != before || i == 1 ? 1 : 0, 1);
             }
             due(49, "undo of call " + i, x.undo(i == 1 ? 2 : 1), i == 1 ? 8 : 9);
-            due(49, "all is as it was behind call " + i, seen(x) == before ? 1 : 0, 1);
+            due(49, "all is as it was behind call " + i, Check.seen(x) == before ? 1 : 0, 1);
             due(49, "the call tells the same again", callOne(x, i), told);
         }
     }
@@ -156,10 +128,10 @@ public final class BackTest {
         x.trigger(4, 2, 2);
         x.trigger(1, 3, 3);
         x.limit(4, 6, 5);
-        long before = seen(x);
+        long before = Check.seen(x);
         due(3, "remove", x.remove(4), 1);
         due(49, "undo", x.undo(1), 9);
-        due(49, "as it was", seen(x) == before ? 1 : 0, 1);
+        due(49, "as it was", Check.seen(x) == before ? 1 : 0, 1);
         due(49, "the trigger's group", x.fired(1, 1), 4);
         due(49, "the other's", x.fired(2, 1), 1);
         x.forget();
@@ -167,7 +139,7 @@ public final class BackTest {
         x.trigger(0, 1, 1);
         x.trigger(0, 1, 1);
         x.undo(4);
-        due(49, "as it was", seen(x) == before ? 1 : 0, 1);
+        due(49, "as it was", Check.seen(x) == before ? 1 : 0, 1);
         x.limit(1, 5, 0);
         x.limit(1, 2, 0);
         x.charge(0, 0, 12);
@@ -182,20 +154,20 @@ public final class BackTest {
         long[] states = new long[60];
         int at = 0;
         for (int i = 0; i < 50; i++) {
-            states[at] = seen(x);
+            states[at] = Check.seen(x);
             int told = callOne(x, new int[] {8, 16, 5, 13, 11, 14, 3, 10}[i % 8]);
             at += told >= 0 ? 1 : 0;
             if (i % 7 == 6) {
                 int n = i % 3 + 1;
                 due(49, "how many still can be", x.undo(n), x.count(6));
                 at -= n;
-                due(49, "as it was", seen(x) == states[at] ? 1 : 0, 1);
+                due(49, "as it was", Check.seen(x) == states[at] ? 1 : 0, 1);
             }
         }
         for (int can = x.count(6); can > 0; can--) {
             due(49, "undo", x.undo(1), can - 1);
             at--;
-            due(49, "as it was", seen(x) == states[at] ? 1 : 0, 1);
+            due(49, "as it was", Check.seen(x) == states[at] ? 1 : 0, 1);
         }
     }
 
@@ -204,7 +176,7 @@ public final class BackTest {
         x.limit(3, 8, 1);
         x.undo(1);
         int can = x.count(6);
-        long before = seen(x);
+        long before = Check.seen(x);
         int[] told = {x.group(9), x.remove(0), x.limit(1, 2, 1000), x.process(3, 11), x.fork(7), x.charge(0, 2, 1),
             x.uncharge(0, 0, 99), x.use(0, 99), x.work(0, 0), x.move(0, 1), x.kill(9), x.take(0, 0), x.drain(7), x.batch(0),
             x.swap(2), x.cap(100), x.tick(0), x.trigger(0, 1, 2), x.undo(11), x.image(2), x.restore(1)};
@@ -213,39 +185,39 @@ public final class BackTest {
             due(49, "refused " + i, told[i], codes[i]);
         }
         due(49, "nothing to undo", x.count(6), can);
-        due(49, "nothing changed", seen(x) == before ? 1 : 0, 1);
+        due(49, "nothing changed", Check.seen(x) == before ? 1 : 0, 1);
     }
 
     private static void image() {
         GroupLimits x = busy();
         due(51, "none was made", x.restore(0), -6);
-        long first = seen(x);
+        long first = Check.seen(x);
         int can = x.count(6);
         due(50, "image", x.image(0), 0);
-        due(50, "it changes nothing", seen(x) == first ? 1 : 0, 1);
+        due(50, "it changes nothing", Check.seen(x) == first ? 1 : 0, 1);
         due(50, "nor what can be undone", x.count(6), can);
         due(51, "the other wasn't made", x.restore(1), -6);
         for (int i = 0; i < 12; i++) {
             callOne(x, i);
         }
-        long second = seen(x);
+        long second = Check.seen(x);
         due(50, "image", x.image(1), 0);
         due(51, "restore", x.restore(0), 0);
-        due(51, "as it was", seen(x) == first ? 1 : 0, 1);
+        due(51, "as it was", Check.seen(x) == first ? 1 : 0, 1);
         due(51, "nothing can be undone behind", x.count(6), 0);
         due(51, "nothing can be undone behind", x.undo(1), -3);
         x.tick(4);
         due(49, "what came behind can", x.undo(1), 0);
-        due(51, "as it was", seen(x) == first ? 1 : 0, 1);
+        due(51, "as it was", Check.seen(x) == first ? 1 : 0, 1);
         due(51, "restore", x.restore(1), 0);
-        due(51, "as it was", seen(x) == second ? 1 : 0, 1);
+        due(51, "as it was", Check.seen(x) == second ? 1 : 0, 1);
         x.tick(1);
         due(51, "it can be again", x.restore(1), 0);
-        due(51, "as it was", seen(x) == second ? 1 : 0, 1);
+        due(51, "as it was", Check.seen(x) == second ? 1 : 0, 1);
         due(50, "an image made anew", x.image(0), 0);
         x.tick(1);
         x.restore(0);
-        due(51, "is the newer one", seen(x) == second ? 1 : 0, 1);
+        due(51, "is the newer one", Check.seen(x) == second ? 1 : 0, 1);
         for (int i : new int[] {-1, 2, Integer.MAX_VALUE, Integer.MIN_VALUE}) {
             due(50, "none such", x.image(i), -2);
             due(51, "none such", x.restore(i), -2);
