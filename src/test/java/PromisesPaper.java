@@ -167,6 +167,10 @@ final class PromisesPaper {
         Check.told("the most", x, () -> x.place(1), 3);
         x.limit(3, 3, 50);
         Check.told("of like ones the lowest", x, () -> x.place(1), 1);
+        x.charge(0, CACHE, 1);
+        Check.told("what others have there counts", x, () -> x.place(1), 3);
+        x.uncharge(0, CACHE, 1);
+        x.drain(1);
         x.limit(1, 3, 10);
         x.limit(3, 3, 10);
         Check.told("it just fits", x, () -> x.place(1), 1);
@@ -376,6 +380,8 @@ final class PromisesPaper {
         x.swap(2);
         Check.told("by SWAP, too", x, () -> x.burst(0, CACHE), 7);
         x.swap(0);
+        x.limit(1, 3, 6);
+        Check.told("1", x, () -> x.burst(0, CACHE), 1);
         x.limit(1, 3, 5);
         Check.told("0: none", x, () -> x.burst(0, CACHE), 0);
         x.limit(1, 3, 0);

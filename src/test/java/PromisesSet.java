@@ -246,6 +246,9 @@ final class PromisesSet {
         Check.due("no STOCK", x.count(9), 0);
         Check.due("pages of PROCESSES stay", x.count(3), 6);
         Check.due("no LOW event", x.events(0, 0) + x.events(1, 0), 0);
+        x.move(0, 0);
+        x.charge(0, CACHE, 6);
+        Check.due("of the ROOT itself", x.drain(0) * 10 + x.of(0, 11), 20);
         for (int g : new int[] {-1, 4, 12, FAR[0], FAR[1]}) {
             Check.refused("no GROUP", x, () -> x.drain(g), -2);
         }
@@ -353,5 +356,12 @@ final class PromisesSet {
         Check.due("none is left", x.fired(0, 0), -2);
         Check.due("the first number again", x.trigger(3, 2, 1), 0);
         Check.due("it never FIRED", x.fired(0, 0) * 10 + x.fired(0, 1), 3);
+        x.limit(3, 2, 0);
+        x.charge(2, ANON, 4);
+        x.tick(1);
+        Check.due("it FIRED", x.fired(0, 0), 1);
+        x.forget();
+        x.trigger(3, 2, 1);
+        Check.due("another never FIRED", x.fired(0, 0), 0);
     }
 }

@@ -13,6 +13,7 @@ final class PromisesTell {
         remove();
         removeForgets();
         removeBringsTriggersForward();
+        removeKeepsWindows();
         limitIsV();
         limitBelowWhatThereIs();
         limitTakes();
@@ -65,6 +66,16 @@ final class PromisesTell {
         Check.refused("there are 12 again", x, () -> x.group(0), -4);
         x.undo(1);
         Check.due("with room again", x.group(0), 11);
+        int[] v = {1, 2, 3, 4, 1, 5, 6, 7, 8};
+        for (int what = 0; what < 9; what++) {
+            x.limit(11, what, v[what]);
+        }
+        x.remove(11);
+        x.group(0);
+        int[] first = {0, 0, 999, 999, 0, 999, 1, 99, 16};
+        for (int what = 0; what < 9; what++) {
+            Check.due("as at first, " + what, x.of(11, what), first[what]);
+        }
     }
 
     private static void remove() {
@@ -143,6 +154,25 @@ final class PromisesTell {
         Check.due("there is room", x.trigger(0, 1, 1), 2);
         x.group(0);
         Check.due("the number again, without TRIGGERS", x.count(5), 3);
+    }
+
+    private static void removeKeepsWindows() {
+        GroupLimits x = Check.small();
+        x.group(0);
+        x.trigger(3, 1, 1);
+        x.trigger(4, 1, 1);
+        x.trigger(3, 4, 2);
+        x.trigger(3, 2, 2);
+        x.remove(4);
+        x.limit(3, 2, 0);
+        x.charge(2, ANON, 4);
+        x.tick(2);
+        x.charge(2, ANON, 4);
+        x.tick(1);
+        // 3 was stalled in the first TICK and in the third, and is in the fourth.
+        Check.due("1 of 1 twice, 2 of 4", x.fired(0, 0) * 100 + x.fired(1, 0) * 10 + x.fired(2, 0), 210);
+        x.tick(1);
+        Check.due("2 of 2, too", x.fired(0, 0) * 100 + x.fired(1, 0) * 10 + x.fired(2, 0), 211);
     }
 
     private static void limitIsV() {
@@ -265,6 +295,19 @@ final class PromisesTell {
         Check.due("process", x.process(0, 0), 2);
         Check.due("ADJ", x.proc(0, 1) * 100 + x.proc(1, 1), -990);
         Check.due("without pages", x.of(1, 12), 0);
+        x.swap(9);
+        x.charge(1, ANON, 9);
+        x.take(1, 5);
+        x.charge(1, CACHE, 9);
+        x.work(1, 30);
+        x.tick(1);
+        x.use(1, 1);
+        x.kill(1);
+        x.process(1, 10);
+        int[] anew = {1, 10, 0, 0, 0, 100, 0, 0, 0};
+        for (int what = 0; what < 9; what++) {
+            Check.due("nothing of who had the number, " + what, x.proc(1, what), anew[what]);
+        }
         x.kill(1);
         x.kill(0);
         Check.due("the lowest that is free", x.process(1, 0), 0);

@@ -13,7 +13,9 @@ final class TermsBack {
         whatDidNothing();
         whatCannotBeUndone();
         tenAtMost();
+        refusedWithTenKept();
         undoneAsAWhole();
+        triggersUndone();
         images();
         nothingBehindAnImage();
         codes();
@@ -133,6 +135,64 @@ final class TermsBack {
         x.cap(50);
         Check.due("one more again", x.count(6), 8);
         Check.due("back over it", x.undo(8) * 100 + x.count(12), 89);
+    }
+
+    /** A call that is refused only behind what it tried must not cost the eldest of ten. */
+    private static void refusedWithTenKept() {
+        GroupLimits x = Check.flat(2);
+        x.process(0, -10);
+        x.move(0, 0);
+        x.kill(1);
+        x.move(2, 1);
+        x.charge(2, CACHE, 3);
+        x.charge(2, ANON, 5);
+        x.charge(0, ANON, 9);
+        long first = Check.seen(x);
+        x.limit(1, 3, 9);
+        for (int c = 1; c <= 9; c++) {
+            x.cap(c);
+        }
+        Check.due("ten are kept", x.count(6), 10);
+        Check.refused("a charge", x, () -> x.charge(2, ANON, 50), -4);
+        Check.refused("a limit", x, () -> x.limit(1, 3, 4), -4);
+        Check.refused("a move", x, () -> x.move(0, 1), -4);
+        Check.due("all ten are undone", x.undo(10), 0);
+        Check.due("all is as it was", Check.seen(x) == first);
+    }
+
+    private static void triggersUndone() {
+        GroupLimits x = Check.small();
+        x.limit(3, 2, 0);
+        x.trigger(3, 4, 2);
+        x.trigger(3, 3, 1);
+        x.charge(2, ANON, 8);
+        x.tick(2);
+        Check.due("they FIRED", x.fired(0, 0) * 10 + x.fired(1, 0), 11);
+        x.undo(1);
+        Check.due("they didn't", x.fired(0, 0) * 10 + x.fired(1, 0), 0);
+        x.forget();
+        x.trigger(0, 40, 40);
+        x.trigger(0, 40, 39);
+        x.undo(3);
+        x.tick(1);
+        Check.due("windows and n are as they were", x.fired(0, 0) * 10 + x.fired(1, 0), 1);
+        x.tick(1);
+        Check.due("windows and n are as they were", x.fired(0, 0) * 10 + x.fired(1, 0), 11);
+        x.tick(2);
+        x.undo(3);
+        x.image(0);
+        x.forget();
+        x.trigger(3, 40, 40);
+        x.trigger(3, 1, 1);
+        x.tick(5);
+        x.restore(0);
+        Check.due("in an IMAGE, too", x.fired(0, 0) * 10 + x.fired(1, 0), 0);
+        x.tick(2);
+        Check.due("in an IMAGE, too", x.fired(0, 0) * 10 + x.fired(1, 0), 11);
+        x.tick(2);
+        x.charge(2, ANON, 4);
+        x.tick(1);
+        Check.due("2 of 4 again, 1 of 3 still", x.fired(0, 0) * 10 + x.fired(1, 0), 11);
     }
 
     private static void undoneAsAWhole() {

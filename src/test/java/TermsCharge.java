@@ -248,6 +248,7 @@ final class TermsCharge {
         Check.due("it is no more", x.proc(1, 0), -99);
         Check.due("nothing is charged", x.of(1, 12), 1);
         Check.due("nothing comes to the STOCK", x.of(2, 11), 0);
+        Check.due("no ANON, the CACHE of the other", x.count(7) * 10 + x.count(8), 1);
         Check.due("MAX of its PARENT isn't looked at", x.events(1, 2), 0);
         Check.due("nor HIGH", x.events(1, 1), 0);
         Check.due("it can be undone", x.undo(1) * 100 + x.proc(1, 2), 909);
@@ -409,6 +410,11 @@ final class TermsCharge {
         Check.due("not its own, one above it", x.dying(1), 51);
         Check.due("none BELOW r", x.dying(2), 2);
         Check.due("the ROOT", x.dying(0), 55);
+        GroupLimits y = new GroupLimits();
+        y.process(0, -10);
+        y.process(0, 0);
+        y.limit(0, 4, 1);
+        Check.due("the first has ADJ -10", y.dying(0), 2);
     }
 
     private static void killEvents() {

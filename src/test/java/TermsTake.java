@@ -86,6 +86,13 @@ final class TermsTake {
         Check.due("4 times 9 by 10, cut", x.share(4, 0, 0), 3);
         x.limit(4, 1, 3);
         Check.due("9 are as many again", x.share(2, 0, 0), 6);
+        x.limit(4, 1, 1);
+        Check.due("fewer than the SHARE: no more than its CLAIM", x.share(2, 0, 0) * 10 + x.share(4, 0, 0), 61);
+        x.limit(2, 1, 0);
+        x.limit(1, 1, 0);
+        Check.due("a CLAIM of 1, nothing to share", x.share(4, 0, 0), 0);
+        x.undo(2);
+        x.limit(4, 1, 3);
         x.limit(1, 1, 1);
         Check.due("6 times 1 by 9, cut", x.share(2, 0, 0), 0);
         x.limit(1, 1, 0);
@@ -178,6 +185,11 @@ final class TermsTake {
         x.undo(1);
         Check.due("a STOCK goes although its GROUP is protected", x.limit(2, 1, 999) + x.take(0, 8), 4 + 8);
         Check.due("no STOCK is left", x.count(9), 0);
+        GroupLimits y = new GroupLimits();
+        y.process(0, 0);
+        y.charge(0, CACHE, 1);
+        Check.due("the STOCK of the ROOT itself", y.take(0, 1), 3);
+        Check.due("it is empty", y.of(0, 11) * 10 + y.of(0, 12), 1);
     }
 
     private static void groupOfTheMostSpare() {

@@ -61,6 +61,54 @@ final class TermsThings {
             x.limit(g, 3, 999);
         }
         Check.due("the ROOT's PATH is the ROOT", x.common(0, 11), 0);
+        deepest(x);
+    }
+
+    /** Twelve groups, each below the one ahead of it; process 0, with 9 pages of ANON, in the last. */
+    private static void deepest(GroupLimits x) {
+        x.swap(9);
+        x.take(11, 2);
+        for (int g = 0; g < 12; g++) {
+            Check.due("OUT of " + g, x.of(g, 14), 2);
+            x.limit(g, 5, 2);
+            Check.due("SWAPMAX of " + g, x.spare(11, 11, 0, 0), 0);
+            x.limit(g, 5, 999);
+            x.limit(g, 3, 7);
+            Check.due("MAX of " + g, x.charge(0, 0, 1), 1);
+            Check.due("its MAX event", x.events(g, 2), 1);
+            x.undo(2);
+            x.limit(g, 8, 1);
+            Check.due("PIDS of " + g, x.process(11, 0), -4);
+            x.limit(g, 8, 16);
+            x.limit(g, 4, 1);
+            Check.due("a WHOLE one, " + g, x.dying(0), 1);
+            x.limit(g, 4, 0);
+        }
+        x.process(0, -5);
+        Check.due("alone", x.dying(0), 1);
+        x.limit(0, 4, 1);
+        Check.due("the WHOLE ROOT", x.dying(0), 3);
+        x.swap(2);
+        for (int g = 0; g < 12; g++) {
+            x.limit(g, 2, 7);
+        }
+        x.charge(0, 0, 1);
+        for (int g = 0; g < 12; g++) {
+            Check.due("HIGH event of " + g, x.events(g, 1), 1);
+        }
+        Check.due("STALL by each", x.proc(0, 4), 12);
+        x.work(0, 5);
+        x.tick(1);
+        for (int g = 0; g < 12; g++) {
+            Check.due("SOME of " + g, x.stalls(g, 0), 1);
+            Check.due("FULL of " + g, x.stalls(g, 1), g == 0 ? 0 : 1);
+        }
+        x.tick(12);
+        for (int g = 0; g < 12; g++) {
+            Check.due("it got, " + g, x.of(g, 15), 5);
+        }
+        Check.due("from the last to the ROOT", x.move(0, 0) * 10 + x.of(1, 12), 110);
+        Check.due("from the ROOT to the last", x.move(0, 11) * 10 + x.of(1, 12), 8);
     }
 
     private static void processes() {

@@ -287,6 +287,7 @@ final class TermsTick {
         Check.due("not of others", x.stalls(3, 2), 0);
         x.tick(1);
         Check.due("none is left", x.stalls(2, 2), 1);
+        Check.due("of the ROOT neither", x.stalls(0, 2), 1);
         stall(x, 1, 1);
         x.work(1, 11);
         x.tick(1);
