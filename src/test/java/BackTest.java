@@ -18,30 +18,6 @@ public final class BackTest {
         Check.end("back");
     }
 
-    /** A state in which every call can do something. */
-    private static GroupLimits busy() {
-        GroupLimits x = new GroupLimits();
-        x.group(0);
-        x.group(1);
-        x.group(0);
-        x.process(1, 0);
-        x.process(2, 2);
-        x.process(3, 0);
-        x.swap(30);
-        x.limit(1, 2, 20);
-        x.limit(1, 3, 40);
-        x.charge(0, 0, 18);
-        x.charge(1, 1, 9);
-        x.charge(1, 0, 3);
-        x.charge(2, 0, 6);
-        x.take(3, 3);
-        x.work(0, 40);
-        x.work(2, 9);
-        x.trigger(1, 3, 1);
-        x.tick(3);
-        return x;
-    }
-
     /** One of the calls that can be undone, by its number. */
     private static int callOne(GroupLimits x, int i) {
         switch (i) {
@@ -109,7 +85,7 @@ public final class BackTest {
 
     private static void undoEachCall() {
         for (int i = 0; i < 19; i++) {
-            GroupLimits x = busy();
+            GroupLimits x = Check.busy();
             long before = Check.seen(x);
             int told = callOne(x, i);
             due(49, "call " + i + " isn't refused", told < 0 ? told : 0, 0);
@@ -123,7 +99,7 @@ public final class BackTest {
     }
 
     private static void undoRemove() {
-        GroupLimits x = busy();
+        GroupLimits x = Check.busy();
         x.group(1);
         x.trigger(4, 2, 2);
         x.trigger(1, 3, 3);
@@ -150,7 +126,7 @@ public final class BackTest {
     }
 
     private static void undoWrapsAround() {
-        GroupLimits x = busy();
+        GroupLimits x = Check.busy();
         long[] states = new long[60];
         int at = 0;
         for (int i = 0; i < 50; i++) {
@@ -172,7 +148,7 @@ public final class BackTest {
     }
 
     private static void refusedIsNothing() {
-        GroupLimits x = busy();
+        GroupLimits x = Check.busy();
         x.limit(3, 8, 1);
         x.undo(1);
         int can = x.count(6);
@@ -189,7 +165,7 @@ public final class BackTest {
     }
 
     private static void image() {
-        GroupLimits x = busy();
+        GroupLimits x = Check.busy();
         due(51, "none was made", x.restore(0), -6);
         long first = Check.seen(x);
         int can = x.count(6);

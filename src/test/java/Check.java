@@ -33,6 +33,30 @@ final class Check {
         return x;
     }
 
+    /** A state in which every call can do something. */
+    static GroupLimits busy() {
+        GroupLimits x = new GroupLimits();
+        x.group(0);
+        x.group(1);
+        x.group(0);
+        x.process(1, 0);
+        x.process(2, 2);
+        x.process(3, 0);
+        x.swap(30);
+        x.limit(1, 2, 20);
+        x.limit(1, 3, 40);
+        x.charge(0, 0, 18);
+        x.charge(1, 1, 9);
+        x.charge(1, 0, 3);
+        x.charge(2, 0, 6);
+        x.take(3, 3);
+        x.work(0, 40);
+        x.work(2, 9);
+        x.trigger(1, 3, 1);
+        x.tick(3);
+        return x;
+    }
+
     static void due(int promise, String call, int got, int want) {
         sentence = "promise " + promise;
         due(call, got, want);

@@ -167,6 +167,7 @@ final class PromisesTell {
         x.limit(3, 2, 0);
         x.charge(2, ANON, 4);
         x.tick(2);
+        Check.due("1 of 1", x.fired(0, 0) * 100 + x.fired(1, 0) * 10 + x.fired(2, 0), 100);
         x.charge(2, ANON, 4);
         x.tick(1);
         // 3 was stalled in the first TICK and in the third, and is in the fourth.

@@ -4,6 +4,7 @@ import java.util.function.IntSupplier;
 final class TermsBack {
     private static final int ANON = 0;
     private static final int CACHE = 1;
+    private static final int CALLS = 19;
 
     private TermsBack() {
     }
@@ -23,33 +24,13 @@ final class TermsBack {
         aheadOfNone();
     }
 
-    /** A state in which every call can do something. */
+    /** A state in which every call can do something, a STOCK and a group to remove with it. */
     static GroupLimits busy() {
-        GroupLimits x = new GroupLimits();
-        x.group(0);
-        x.group(1);
-        x.group(0);
-        x.process(1, 0);
-        x.process(2, 2);
-        x.process(3, 0);
-        x.swap(30);
-        x.limit(1, 2, 20);
-        x.limit(1, 3, 40);
-        x.charge(0, ANON, 18);
-        x.charge(1, CACHE, 9);
-        x.charge(1, ANON, 3);
-        x.charge(2, ANON, 6);
-        x.take(3, 3);
-        x.work(0, 40);
-        x.work(2, 9);
-        x.trigger(1, 3, 1);
-        x.tick(3);
+        GroupLimits x = Check.busy();
         x.uncharge(0, ANON, 2);
         x.group(0);
         return x;
     }
-
-    private static final int CALLS = 19;
 
     /** A call that changes something of a busy state, by its number in the document's list. */
     private static int change(GroupLimits x, int i) {
