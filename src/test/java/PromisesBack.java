@@ -12,7 +12,6 @@ final class PromisesBack {
         image();
         restore();
         count();
-        manyCalls();
     }
 
     private static void undo() {
@@ -138,16 +137,5 @@ final class PromisesBack {
         }
         Check.due("all GROUPS", x.count(0), 0xFFF);
         Check.due("all PROCESSES", x.count(1), 0xFFFF);
-    }
-
-    /** An object is used for 512 calls: the last is answered as the first. */
-    private static void manyCalls() {
-        GroupLimits x = new GroupLimits();
-        int wrong = 0;
-        for (int i = 1; i <= 512; i++) {
-            wrong += x.tick(40) == 40 * i ? 0 : 1;
-        }
-        Check.due("512 calls of tick(40)", wrong, 0);
-        Check.due("TICKS", x.count(2), 20480);
     }
 }
