@@ -1049,7 +1049,7 @@ public final class GroupLimits {
             for (int i = 0; i < AVERAGES; i++) {
                 int over = AVERAGE_OVER[i];
                 int[] row = averages[kind * AVERAGES + i];
-                row[g] = ((over - 1) * row[g] + (isStalled ? 1000 : 0)) / over;
+                row[g] = over <= 0 ? 0 : ((over - 1) * row[g] + (isStalled ? 1000 : 0)) / over;
             }
         }
 

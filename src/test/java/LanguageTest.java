@@ -1,9 +1,13 @@
 import com.sun.source.tree.AssertTree;
+import com.sun.source.tree.BinaryTree;
 import com.sun.source.tree.ClassTree;
 import com.sun.source.tree.CompilationUnitTree;
+import com.sun.source.tree.CompoundAssignmentTree;
 import com.sun.source.tree.DoWhileLoopTree;
+import com.sun.source.tree.ExpressionTree;
 import com.sun.source.tree.ImportTree;
 import com.sun.source.tree.LambdaExpressionTree;
+import com.sun.source.tree.LiteralTree;
 import com.sun.source.tree.MemberReferenceTree;
 import com.sun.source.tree.MethodInvocationTree;
 import com.sun.source.tree.MethodTree;
@@ -34,6 +38,7 @@ import javax.lang.model.element.Element;
 import javax.lang.model.element.ElementKind;
 import javax.lang.model.element.ExecutableElement;
 import javax.lang.model.element.Modifier;
+import javax.lang.model.element.VariableElement;
 import javax.tools.JavaCompiler;
 import javax.tools.StandardJavaFileManager;
 import javax.tools.ToolProvider;
@@ -213,6 +218,44 @@ public final class LanguageTest {
             check(tree.getClassBody() == null, "2: an anonymous class");
             noteCall(trees.getElement(getCurrentPath()));
             return super.visitNewClass(tree, none);
+        }
+
+        /** A divisor is a constant, or its method compares it with 0, written so. */
+        @Override
+        public Void visitBinary(BinaryTree tree, Void none) {
+            if (tree.getKind() == Tree.Kind.DIVIDE || tree.getKind() == Tree.Kind.REMAINDER) {
+                checkDivisor(tree.getRightOperand());
+            }
+            return super.visitBinary(tree, none);
+        }
+
+        @Override
+        public Void visitCompoundAssignment(CompoundAssignmentTree tree, Void none) {
+            if (tree.getKind() == Tree.Kind.DIVIDE_ASSIGNMENT || tree.getKind() == Tree.Kind.REMAINDER_ASSIGNMENT) {
+                checkDivisor(tree.getExpression());
+            }
+            return super.visitCompoundAssignment(tree, none);
+        }
+
+        private void checkDivisor(ExpressionTree divisor) {
+            if (isConstant(divisor)) {
+                return;
+            }
+            TreePath path = getCurrentPath();
+            while (path != null && !(path.getLeaf() instanceof MethodTree)) {
+                path = path.getParentPath();
+            }
+            String method = path == null ? "" : path.getLeaf().toString();
+            check(method.contains(divisor + " <= 0"), "7: " + divisor + " isn't tested, line " + line(divisor, false));
+        }
+
+        private boolean isConstant(ExpressionTree tree) {
+            if (tree instanceof LiteralTree literal) {
+                return !Integer.valueOf(0).equals(literal.getValue());
+            }
+            Element named = trees.getElement(new TreePath(getCurrentPath(), tree));
+            Object value = named instanceof VariableElement variable ? variable.getConstantValue() : null;
+            return value != null && !Integer.valueOf(0).equals(value);
         }
 
         @Override
